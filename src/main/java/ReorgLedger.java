@@ -43,7 +43,7 @@ public final class ReorgLedger {
     private final boolean[] fitting = new boolean[MOST_BLOCKS];
 
     // The state behind each block, a row of COINS entries: the amount of an unspent coin, which
-    // is never 0, or 0 for a coin that is not unspent. Owners follow from the coin's number.
+    // is never 0, or 0 for a coin that is not unspent. A coin's number tells its owner.
     private final int[] amounts = new int[MOST_AMOUNTS];
 
     public ReorgLedger() {
@@ -131,10 +131,17 @@ public final class ReorgLedger {
             return BAD_OWNER;
         }
         int sum = 0;
-        for (int coin = 0; coin < COINS; coin++) {
-            int amount = amountBehind(tipBlock, coin);
-            if (amount > 0 && ownerOf(coin) == owner) {
-                sum += amount;
+        for (int block = 0; block < blockCount; block++) {
+            if (minerOf[block] == owner) {
+                sum += amountBehind(tipBlock, BLOCK_COINS + block);
+            }
+        }
+        for (int transaction = 0; transaction < transactionCount; transaction++) {
+            if (receiverOf[transaction] == owner) {
+                sum += amountBehind(tipBlock, 2 * transaction);
+            }
+            if (senderOf[transaction] == owner) {
+                sum += amountBehind(tipBlock, 2 * transaction + 1);
             }
         }
         return sum;
@@ -204,14 +211,6 @@ public final class ReorgLedger {
 
     private void setAmountBehind(int block, int coin, int amount) {
         amounts[block * COINS + coin] = amount;
-    }
-
-    // Asked only for coins that were made, so a block coin's block exists.
-    private int ownerOf(int coin) {
-        if (coin >= BLOCK_COINS) {
-            return minerOf[coin - BLOCK_COINS];
-        }
-        return (coin & 1) == 0 ? receiverOf[coin >> 1] : senderOf[coin >> 1];
     }
 
     // A row that was left half built is never read: every block above it is invalid as well.
