@@ -1,9 +1,10 @@
 import java.util.ArrayList;
 import java.util.List;
+import java.util.function.IntPredicate;
 import java.util.function.IntUnaryOperator;
 
-// A test for each sentence of the document that names a boundary case, under that sentence's own
-// words. No object gets more than the 512 calls that the document allows, but for one test that
+// A test for each sentence of the document that names a boundary case, under that sentence's words,
+// shortened. No object gets more than the 512 calls that the document allows, but for one test that
 // goes past them.
 public final class BoundaryTests {
     private static final int NONE = -1;
@@ -11,9 +12,12 @@ public final class BoundaryTests {
     private static final int MAX = Integer.MAX_VALUE;
     private static final int PLAIN = content(NONE, NONE, 1);
 
-    // What "some" leaves behind: transactions 0 to 4, blocks 0 to 5, the tip 2.
+    // "Some" is transactions 0 to 4 and blocks 0 to 5, with the tip 2.
     private static final int SOME_TRANSACTIONS = 5;
     private static final int SOME_BLOCKS = 6;
+    private static final int[] SOME_PARENTS = {NONE, 0, 1, 0, 1, 2};
+    private static final Setup SOME = new Setup(SOME_TRANSACTIONS, SOME_BLOCKS);
+    private static final Setup NOTHING = new Setup(0, 1);
 
     private interface Use {
         void on(ReorgLedger x);
@@ -23,11 +27,11 @@ public final class BoundaryTests {
         int on(ReorgLedger x);
     }
 
-    private interface Sight {
-        List<Integer> of(ReorgLedger x);
+    private interface Way {
+        List<Integer> on(ReorgLedger x);
     }
 
-    private static final List<Sight> SIGHTS = sights();
+    private static final List<Way> QUESTIONS = questions();
 
     private static String sentence = "";
     private static int sentences = 0;
@@ -201,7 +205,7 @@ public final class BoundaryTests {
     }
 
     private static void blockZero() {
-        ReorgLedger x = made(BoundaryTests::some);
+        ReorgLedger x = SOME.made();
         for (int t = 0; t < SOME_TRANSACTIONS; t++) {
             due("its branch carries no transaction", tipAtZero().confirmations(t), 0);
         }
@@ -218,7 +222,7 @@ public final class BoundaryTests {
     }
 
     private static ReorgLedger tipAtZero() {
-        ReorgLedger x = made(BoundaryTests::some);
+        ReorgLedger x = SOME.made();
         x.ban(1, true);
         x.ban(3, true);
         return x;
@@ -582,16 +586,16 @@ public final class BoundaryTests {
 
     private static void queriesChangeNothing() {
         for (int number : new int[] {MIN, -1, 0, 1, 2, 4, 5, 6, 8, 15, 16, 21, 32, 63, 64, MAX}) {
-            dueNoChange("valid " + number, BoundaryTests::some, x -> x.valid(number) ? 1 : 0);
-            dueNoChange("total " + number, BoundaryTests::some, x -> x.total(number));
-            dueNoChange("balance " + number, BoundaryTests::some, x -> x.balance(number));
-            dueNoChange("unspent " + number, BoundaryTests::some, x -> x.unspent(number) ? 1 : 0);
-            dueNoChange("confirmations " + number, BoundaryTests::some, x -> x.confirmations(number));
-            dueNoChange("shared " + number, BoundaryTests::some, x -> x.shared(number, 2));
-            dueNoChange("shared 2 " + number, BoundaryTests::some, x -> x.shared(2, number));
-            dueNoChange("fits " + number, BoundaryTests::some, x -> x.fits(number) ? 1 : 0);
+            dueNoChange("valid " + number, SOME, x -> x.valid(number) ? 1 : 0);
+            dueNoChange("total " + number, SOME, x -> x.total(number));
+            dueNoChange("balance " + number, SOME, x -> x.balance(number));
+            dueNoChange("unspent " + number, SOME, x -> x.unspent(number) ? 1 : 0);
+            dueNoChange("confirmations " + number, SOME, x -> x.confirmations(number));
+            dueNoChange("shared " + number, SOME, x -> x.shared(number, 2));
+            dueNoChange("shared 2 " + number, SOME, x -> x.shared(2, number));
+            dueNoChange("fits " + number, SOME, x -> x.fits(number) ? 1 : 0);
         }
-        dueNoChange("tip", BoundaryTests::some, ReorgLedger::tip);
+        dueNoChange("tip", SOME, ReorgLedger::tip);
     }
 
     // ---- Promise 1
@@ -659,8 +663,8 @@ public final class BoundaryTests {
     private static void badX() {
         for (int coin : new int[] {MIN, -64, -32, -2, -1, 64, 65, 96, 128, MAX}) {
             Call call = x -> x.transaction(coin, -1, 1, 0);
-            dueRefused("x " + coin, BoundaryTests::some, call, ReorgLedger.BAD_COIN);
-            dueRefused("x " + coin, BoundaryTests::nothing, call, ReorgLedger.BAD_COIN);
+            dueRefused("x " + coin, SOME, call, ReorgLedger.BAD_COIN);
+            dueRefused("x " + coin, NOTHING, call, ReorgLedger.BAD_COIN);
         }
         due("x 0", new ReorgLedger().transaction(0, -1, 1, 0), 0);
         due("x 63", new ReorgLedger().transaction(63, -1, 1, 0), 0);
@@ -669,8 +673,8 @@ public final class BoundaryTests {
     private static void badY() {
         for (int coin : new int[] {MIN, -64, -32, -3, -2, 64, 65, 96, 128, MAX}) {
             Call call = x -> x.transaction(32, coin, 1, 0);
-            dueRefused("y " + coin, BoundaryTests::some, call, ReorgLedger.BAD_COIN);
-            dueRefused("y " + coin, BoundaryTests::nothing, call, ReorgLedger.BAD_COIN);
+            dueRefused("y " + coin, SOME, call, ReorgLedger.BAD_COIN);
+            dueRefused("y " + coin, NOTHING, call, ReorgLedger.BAD_COIN);
         }
         due("y -1", new ReorgLedger().transaction(32, -1, 1, 0), 0);
         due("y 0", new ReorgLedger().transaction(32, 0, 1, 0), 0);
@@ -680,28 +684,28 @@ public final class BoundaryTests {
     private static void badAmount() {
         for (int amount : new int[] {MIN, -1000, -1, 0, 1001, 1024, 65537, MAX}) {
             Call call = x -> x.transaction(32, -1, amount, 0);
-            dueRefused("amount " + amount, BoundaryTests::some, call, ReorgLedger.BAD_AMOUNT);
-            dueRefused("amount " + amount, BoundaryTests::nothing, call, ReorgLedger.BAD_AMOUNT);
+            dueRefused("amount " + amount, SOME, call, ReorgLedger.BAD_AMOUNT);
+            dueRefused("amount " + amount, NOTHING, call, ReorgLedger.BAD_AMOUNT);
         }
         due("amount 1", new ReorgLedger().transaction(32, -1, 1, 0), 0);
         due("amount 1000", new ReorgLedger().transaction(32, -1, 1000, 0), 0);
     }
 
     private static void fullOfTransactions() {
-        Use sixteen = manyTransactions(16);
+        Setup sixteen = manyTransactions(16);
         for (int coin : new int[] {0, 32, 33, 63}) {
             Call call = x -> x.transaction(coin, -1, 3, 45);
             dueRefused("seventeenth, of coin " + coin, sixteen, call, ReorgLedger.FULL);
         }
-        due("the sixteenth", made(manyTransactions(15)).transaction(32, -1, 3, 45), 15);
-        ReorgLedger x = made(sixteen);
+        due("the sixteenth", manyTransactions(15).made().transaction(32, -1, 3, 45), 15);
+        ReorgLedger x = sixteen.made();
         x.block(2, 0, content(15, NONE, 1));
         due("full still, with blocks", x.transaction(32, -1, 3, 45), ReorgLedger.FULL);
     }
 
     private static void transactionAnswers() {
         for (int count = SOME_TRANSACTIONS; count < 16; count++) {
-            ReorgLedger x = made(manyTransactions(count));
+            ReorgLedger x = manyTransactions(count).made();
             due("before", x.confirmations(count), ReorgLedger.NO_TX);
             due("number", x.transaction(32, -1, 1, 0), count);
             due("after", x.confirmations(count), 0);
@@ -776,16 +780,16 @@ public final class BoundaryTests {
     private static void noParent() {
         for (int parent : new int[] {MIN, -32, -1, SOME_BLOCKS, 20, 21, 32, 34, 64, MAX}) {
             Call call = x -> x.block(parent, 0, PLAIN);
-            dueRefused("parent " + parent, BoundaryTests::some, call, ReorgLedger.NO_BLOCK);
+            dueRefused("parent " + parent, SOME, call, ReorgLedger.NO_BLOCK);
         }
-        dueRefused("parent 1", BoundaryTests::nothing, x -> x.block(1, 0, PLAIN), ReorgLedger.NO_BLOCK);
-        due("parent 0", made(BoundaryTests::some).block(0, 0, PLAIN), SOME_BLOCKS);
-        due("the last parent", made(BoundaryTests::some).block(SOME_BLOCKS - 1, 0, PLAIN), SOME_BLOCKS);
-        due("parent 19", made(manyBlocks(20)).block(19, 0, PLAIN), 20);
+        dueRefused("parent 1", NOTHING, x -> x.block(1, 0, PLAIN), ReorgLedger.NO_BLOCK);
+        due("parent 0", SOME.made().block(0, 0, PLAIN), SOME_BLOCKS);
+        due("the last parent", SOME.made().block(SOME_BLOCKS - 1, 0, PLAIN), SOME_BLOCKS);
+        due("parent 19", manyBlocks(20).made().block(19, 0, PLAIN), 20);
     }
 
     private static void anyParent() {
-        ReorgLedger x = made(BoundaryTests::some);
+        ReorgLedger x = SOME.made();
         due("above a banned one", x.block(4, 0, PLAIN), 6);
         due("its total", x.total(6), 12);
         due("above one that doesn't fit", x.block(5, 0, PLAIN), 7);
@@ -798,10 +802,10 @@ public final class BoundaryTests {
     private static void badMiner() {
         for (int miner : new int[] {MIN, -8, -1, 8, 9, 16, MAX}) {
             Call call = x -> x.block(2, miner, PLAIN);
-            dueRefused("miner " + miner, BoundaryTests::some, call, ReorgLedger.BAD_OWNER);
+            dueRefused("miner " + miner, SOME, call, ReorgLedger.BAD_OWNER);
         }
         for (int miner = 0; miner < 8; miner++) {
-            ReorgLedger x = made(BoundaryTests::some);
+            ReorgLedger x = SOME.made();
             int before = x.balance(miner);
             due("miner " + miner, x.block(2, miner, PLAIN), SOME_BLOCKS);
             due("has the coin", x.balance(miner), before + 50);
@@ -812,35 +816,35 @@ public final class BoundaryTests {
         for (int count : new int[] {SOME_TRANSACTIONS, 15, 16}) {
             for (int t = count; t < 31; t++) {
                 int missing = t;
-                Use setup = manyTransactions(count);
+                Setup setup = manyTransactions(count);
                 dueRefused("first is " + t, setup, x -> x.block(2, 0, content(missing, NONE, 1)), ReorgLedger.NO_TX);
                 dueRefused("second is " + t, setup, x -> x.block(2, 0, content(NONE, missing, 1)), ReorgLedger.NO_TX);
                 dueRefused("first of two", setup, x -> x.block(2, 0, content(missing, 0, 1)), ReorgLedger.NO_TX);
                 dueRefused("second of two", setup, x -> x.block(2, 0, content(0, missing, 1)), ReorgLedger.NO_TX);
             }
-            ReorgLedger x = made(manyTransactions(count));
+            ReorgLedger x = manyTransactions(count).made();
             due("the last one, first", x.block(2, 0, content(count - 1, NONE, 1)), 6);
             due("the last one, second", x.block(2, 0, content(NONE, count - 1, 1)), 7);
         }
-        dueRefused("0 of none", BoundaryTests::nothing, x -> x.block(0, 0, content(0, NONE, 1)), ReorgLedger.NO_TX);
+        dueRefused("0 of none", NOTHING, x -> x.block(0, 0, content(0, NONE, 1)), ReorgLedger.NO_TX);
     }
 
     private static void noWork() {
         int[] contents = {0, 1, 1 << 5, content(0, 1, 0), 1 << 14, -1 << 14, 1 << 31};
         for (int content : contents) {
-            dueRefused("content " + content, BoundaryTests::some, x -> x.block(2, 0, content), ReorgLedger.BAD_WORK);
+            dueRefused("content " + content, SOME, x -> x.block(2, 0, content), ReorgLedger.BAD_WORK);
         }
-        due("work 1", made(BoundaryTests::some).block(2, 0, 1 << 10), SOME_BLOCKS);
+        due("work 1", SOME.made().block(2, 0, 1 << 10), SOME_BLOCKS);
     }
 
     private static void fullOfBlocks() {
-        Use all = manyBlocks(21);
+        Setup all = manyBlocks(21);
         for (int parent : new int[] {0, 2, 20}) {
             dueRefused("parent " + parent, all, x -> x.block(parent, 1, content(0, NONE, 15)), ReorgLedger.FULL);
             dueRefused("parent " + parent, all, x -> x.block(parent, 1, content(NONE, NONE, 15)), ReorgLedger.FULL);
         }
-        due("the twenty-first", made(manyBlocks(20)).block(0, 1, PLAIN), 20);
-        ReorgLedger x = made(all);
+        due("the twenty-first", manyBlocks(20).made().block(0, 1, PLAIN), 20);
+        ReorgLedger x = all.made();
         for (int b = 1; b <= 20; b++) {
             x.ban(b, true);
         }
@@ -849,13 +853,13 @@ public final class BoundaryTests {
 
     private static void blockAnswers() {
         for (int count = SOME_BLOCKS; count < 21; count++) {
-            ReorgLedger x = made(manyBlocks(count));
+            ReorgLedger x = manyBlocks(count).made();
             due("before", x.total(count), ReorgLedger.NO_BLOCK);
             due("number", x.block(0, 1, content(NONE, NONE, 7)), count);
             due("after", x.total(count), 7);
-            ReorgLedger z = made(manyBlocks(count));
+            ReorgLedger z = manyBlocks(count).made();
             due("one that doesn't become the tip", z.block(0, 1, PLAIN), count);
-            ReorgLedger w = made(manyBlocks(count));
+            ReorgLedger w = manyBlocks(count).made();
             due("one that isn't valid", w.block(5, 1, PLAIN), count);
         }
     }
@@ -880,21 +884,21 @@ public final class BoundaryTests {
 
     private static void banOfNoBlock() {
         for (int block : new int[] {MIN, -32, -1, SOME_BLOCKS, 7, 20, 21, 32, 34, 64, MAX}) {
-            dueRefused("ban " + block, BoundaryTests::some, x -> x.ban(block, true), ReorgLedger.NO_BLOCK);
-            dueRefused("allow " + block, BoundaryTests::some, x -> x.ban(block, false), ReorgLedger.NO_BLOCK);
+            dueRefused("ban " + block, SOME, x -> x.ban(block, true), ReorgLedger.NO_BLOCK);
+            dueRefused("allow " + block, SOME, x -> x.ban(block, false), ReorgLedger.NO_BLOCK);
         }
-        dueRefused("ban 1", BoundaryTests::nothing, x -> x.ban(1, true), ReorgLedger.NO_BLOCK);
+        dueRefused("ban 1", NOTHING, x -> x.ban(1, true), ReorgLedger.NO_BLOCK);
         dueRefused("ban 21", manyBlocks(21), x -> x.ban(21, true), ReorgLedger.NO_BLOCK);
-        due("ban 20", made(manyBlocks(21)).ban(20, true), 0);
+        due("ban 20", manyBlocks(21).made().ban(20, true), 0);
     }
 
     private static void banOfBlockZero() {
         for (boolean on : new boolean[] {true, false}) {
-            dueRefused("alone, " + on, BoundaryTests::nothing, x -> x.ban(0, on), ReorgLedger.NO_BLOCK);
-            dueRefused("with some, " + on, BoundaryTests::some, x -> x.ban(0, on), ReorgLedger.NO_BLOCK);
+            dueRefused("alone, " + on, NOTHING, x -> x.ban(0, on), ReorgLedger.NO_BLOCK);
+            dueRefused("with some, " + on, SOME, x -> x.ban(0, on), ReorgLedger.NO_BLOCK);
             dueRefused("with all, " + on, manyBlocks(21), x -> x.ban(0, on), ReorgLedger.NO_BLOCK);
         }
-        due("block 1 is not block 0", made(BoundaryTests::some).ban(1, true), 0);
+        due("block 1 is not block 0", SOME.made().ban(1, true), 0);
     }
 
     private static void banAnswers() {
@@ -907,7 +911,7 @@ public final class BoundaryTests {
             due("allowed again", x.ban(b, false), 0);
             due("banned anew", x.ban(b, true), 0);
         }
-        ReorgLedger z = made(BoundaryTests::some);
+        ReorgLedger z = SOME.made();
         due("not valid is not banned", z.ban(5, true), 0);
         z.ban(1, true);
         due("above a banned one is not banned", z.ban(2, false), 0);
@@ -919,13 +923,13 @@ public final class BoundaryTests {
         for (int last = 0; last <= 20; last++) {
             due("of a chain to " + last, made(chain(last)).tip(), last);
         }
-        due("of some", made(BoundaryTests::some).tip(), 2);
+        due("of some", SOME.made().tip(), 2);
         due("when no other is valid", tipAtZero().tip(), 0);
     }
 
     private static void validOfNoBlock() {
         for (int block : new int[] {MIN, -32, -1, SOME_BLOCKS, 20, 21, 32, 34, 64, MAX}) {
-            dueRefused("block " + block, BoundaryTests::some, x -> x.valid(block) ? 1 : 0, 0);
+            dueRefused("block " + block, SOME, x -> x.valid(block) ? 1 : 0, 0);
         }
         for (int block : new int[] {MIN, -1, 21, 32, MAX}) {
             due("of 21, block " + block, made(chain(20)).valid(block), false);
@@ -935,7 +939,7 @@ public final class BoundaryTests {
 
     private static void validAtTheEdges() {
         boolean[] some = {true, true, true, true, false, false};
-        ReorgLedger x = made(BoundaryTests::some);
+        ReorgLedger x = SOME.made();
         for (int b = 0; b < SOME_BLOCKS; b++) {
             due("block " + b, x.valid(b), some[b]);
         }
@@ -945,7 +949,7 @@ public final class BoundaryTests {
 
     private static void totalOfNoBlock() {
         for (int block : new int[] {MIN, -32, -1, SOME_BLOCKS, 20, 21, 32, 34, 64, MAX}) {
-            dueRefused("block " + block, BoundaryTests::some, x -> x.total(block), ReorgLedger.NO_BLOCK);
+            dueRefused("block " + block, SOME, x -> x.total(block), ReorgLedger.NO_BLOCK);
         }
         for (int block : new int[] {MIN, -1, 21, 32, MAX}) {
             due("of 21, block " + block, made(chain(20)).total(block), ReorgLedger.NO_BLOCK);
@@ -955,7 +959,7 @@ public final class BoundaryTests {
 
     private static void totalAtTheEdges() {
         int[] some = {0, 2, 5, 5, 11, 20};
-        ReorgLedger x = made(BoundaryTests::some);
+        ReorgLedger x = SOME.made();
         for (int b = 0; b < SOME_BLOCKS; b++) {
             due("block " + b + ", valid or not", x.total(b), some[b]);
         }
@@ -964,13 +968,13 @@ public final class BoundaryTests {
 
     private static void balanceOfNoOwner() {
         for (int owner : new int[] {MIN, -8, -1, 8, 9, 16, 32, 64, MAX}) {
-            dueRefused("owner " + owner, BoundaryTests::some, x -> x.balance(owner), ReorgLedger.BAD_OWNER);
+            dueRefused("owner " + owner, SOME, x -> x.balance(owner), ReorgLedger.BAD_OWNER);
             due("new, owner " + owner, new ReorgLedger().balance(owner), ReorgLedger.BAD_OWNER);
         }
     }
 
     private static void balanceAtTheEdges() {
-        dueBalances("some", made(BoundaryTests::some), 0, 0, 20, 20, 110, 0, 0, 0);
+        dueBalances("some", SOME.made(), 0, 0, 20, 20, 110, 0, 0, 0);
         dueBalances("block 0 alone", tipAtZero(), 50, 0, 0, 0, 0, 0, 0, 0);
         ReorgLedger x = new ReorgLedger();
         for (int b = 0; b < 20; b++) {
@@ -985,13 +989,13 @@ public final class BoundaryTests {
 
     private static void unspentOfNoCoin() {
         for (int coin : new int[] {MIN, -64, -32, -1, 64, 66, 96, 97, 128, 160, MAX}) {
-            dueRefused("coin " + coin, BoundaryTests::some, x -> x.unspent(coin) ? 1 : 0, 0);
+            dueRefused("coin " + coin, SOME, x -> x.unspent(coin) ? 1 : 0, 0);
             due("new, coin " + coin, new ReorgLedger().unspent(coin), false);
         }
     }
 
     private static void unspentAtTheEdges() {
-        dueCoins("some", made(BoundaryTests::some), 0, 2, 3, 34);
+        dueCoins("some", SOME.made(), 0, 2, 3, 34);
         dueCoins("block 0 alone", tipAtZero(), 32);
         dueCoins("block 4's", allowed4(), 0, 1, 4, 36);
         due("coin 52", made(chain(20)).unspent(52), true);
@@ -999,7 +1003,7 @@ public final class BoundaryTests {
     }
 
     private static ReorgLedger allowed4() {
-        ReorgLedger x = made(BoundaryTests::some);
+        ReorgLedger x = SOME.made();
         x.ban(4, false);
         return x;
     }
@@ -1028,21 +1032,21 @@ public final class BoundaryTests {
     }
 
     private static void confirmationsZero() {
-        ReorgLedger x = made(BoundaryTests::some);
+        ReorgLedger x = SOME.made();
         due("in a banned block", x.confirmations(2), 0);
         due("in a block that doesn't fit", x.confirmations(3), 0);
         due("in no block", x.confirmations(4), 0);
         x.ban(1, true);
         due("in none of the tip's branch any more", x.confirmations(0), 0);
-        due("the last of sixteen", made(manyTransactions(16)).confirmations(15), 0);
+        due("the last of sixteen", manyTransactions(16).made().confirmations(15), 0);
     }
 
     private static void confirmationsOfNoTransaction() {
         for (int t : new int[] {MIN, -32, -1, SOME_TRANSACTIONS, 15, 16, 32, 33, 64, MAX}) {
-            dueRefused("transaction " + t, BoundaryTests::some, x -> x.confirmations(t), ReorgLedger.NO_TX);
+            dueRefused("transaction " + t, SOME, x -> x.confirmations(t), ReorgLedger.NO_TX);
         }
         for (int t : new int[] {MIN, -1, 16, 32, MAX}) {
-            due("of 16, " + t, made(manyTransactions(16)).confirmations(t), ReorgLedger.NO_TX);
+            due("of 16, " + t, manyTransactions(16).made().confirmations(t), ReorgLedger.NO_TX);
         }
     }
 
@@ -1054,7 +1058,7 @@ public final class BoundaryTests {
             due("with its descendant", x.shared(a, 20), a + 1);
             due("with its ancestor", x.shared(20, a), a + 1);
         }
-        ReorgLedger z = made(BoundaryTests::some);
+        ReorgLedger z = SOME.made();
         due("fork above block 1, one banned", z.shared(2, 4), 2);
         due("fork above block 0", z.shared(2, 3), 1);
         due("one that doesn't fit", z.shared(5, 5), 4);
@@ -1063,16 +1067,16 @@ public final class BoundaryTests {
 
     private static void sharedOfNoBlock() {
         for (int block : new int[] {MIN, -32, -1, SOME_BLOCKS, 20, 21, 32, 34, 64, MAX}) {
-            dueRefused("a " + block, BoundaryTests::some, x -> x.shared(block, 2), ReorgLedger.NO_BLOCK);
-            dueRefused("b " + block, BoundaryTests::some, x -> x.shared(2, block), ReorgLedger.NO_BLOCK);
-            dueRefused("both " + block, BoundaryTests::some, x -> x.shared(block, block), ReorgLedger.NO_BLOCK);
+            dueRefused("a " + block, SOME, x -> x.shared(block, 2), ReorgLedger.NO_BLOCK);
+            dueRefused("b " + block, SOME, x -> x.shared(2, block), ReorgLedger.NO_BLOCK);
+            dueRefused("both " + block, SOME, x -> x.shared(block, block), ReorgLedger.NO_BLOCK);
         }
         due("of 21, a", made(chain(20)).shared(21, 20), ReorgLedger.NO_BLOCK);
         due("of 21, b", made(chain(20)).shared(20, 21), ReorgLedger.NO_BLOCK);
     }
 
     private static void fitsAtTheEdges() {
-        ReorgLedger x = made(BoundaryTests::some);
+        ReorgLedger x = SOME.made();
         boolean[] behind2 = {false, false, false, false, true};
         boolean[] behind1 = {false, true, true, false, false};
         boolean[] behind0 = {true, false, false, false, false};
@@ -1090,7 +1094,7 @@ public final class BoundaryTests {
 
     private static void fitsOfNoTransaction() {
         for (int t : new int[] {MIN, -32, -1, SOME_TRANSACTIONS, 15, 16, 32, 33, 64, MAX}) {
-            dueRefused("transaction " + t, BoundaryTests::some, x -> x.fits(t) ? 1 : 0, 0);
+            dueRefused("transaction " + t, SOME, x -> x.fits(t) ? 1 : 0, 0);
         }
         for (int t : new int[] {MIN, -1, 16, 32, MAX}) {
             due("of 16, " + t, made(equalTransactions()).fits(t), false);
@@ -1121,7 +1125,7 @@ public final class BoundaryTests {
         } else if (count == 16) {
             dueRefused(what, manyTransactions(count), call, ReorgLedger.FULL);
         } else {
-            due(what, call.on(made(manyTransactions(count))), count);
+            due(what, call.on(manyTransactions(count).made()), count);
         }
     }
 
@@ -1144,7 +1148,7 @@ public final class BoundaryTests {
     private static void dueBlockOrder(int count, int parent, int miner, int content) {
         String what = "block(" + parent + ", " + miner + ", " + content + ") with " + count;
         Call call = x -> x.block(parent, miner, content);
-        Use setup = manyBlocks(count);
+        Setup setup = manyBlocks(count);
         if (parent != 2) {
             dueRefused(what, setup, call, ReorgLedger.NO_BLOCK);
         } else if (miner != 0) {
@@ -1156,7 +1160,7 @@ public final class BoundaryTests {
         } else if (count == 21) {
             dueRefused(what, setup, call, ReorgLedger.FULL);
         } else {
-            due(what, call.on(made(setup)), count);
+            due(what, call.on(setup.made()), count);
         }
     }
 
@@ -1168,11 +1172,8 @@ public final class BoundaryTests {
         return x;
     }
 
-    private static void nothing(ReorgLedger x) {
-    }
-
     // A fork, a tie of totals (2 and 3), a heavier banned block (4) and one that doesn't fit (5).
-    private static void some(ReorgLedger x) {
+    private static void addSome(ReorgLedger x) {
         x.transaction(32, -1, 20, 1 << 3 | 2);
         x.transaction(1, 33, 60, 3 << 3 | 4);
         x.transaction(33, -1, 50, 5 << 3 | 6);
@@ -1186,23 +1187,42 @@ public final class BoundaryTests {
         x.block(2, 7, content(3, NONE, 15));
     }
 
-    private static Use manyTransactions(int count) {
-        return x -> {
-            some(x);
-            for (int t = SOME_TRANSACTIONS; t < count; t++) {
+    // A new object, or "some" with more transactions, and with more blocks on its four branches:
+    // the tip's, the equal one, the banned one, the one that doesn't fit.
+    private record Setup(int transactions, int blocks) {
+        ReorgLedger made() {
+            ReorgLedger x = new ReorgLedger();
+            if (blocks > 1) {
+                addSome(x);
+            }
+            for (int t = SOME_TRANSACTIONS; t < transactions; t++) {
                 x.transaction(34, -1, t, t);
             }
-        };
+            for (int b = SOME_BLOCKS; b < blocks; b++) {
+                x.block(parent(b), b % 8, PLAIN);
+            }
+            return x;
+        }
+
+        static int parent(int block) {
+            return block < SOME_BLOCKS ? SOME_PARENTS[block] : block - 4;
+        }
+
+        static boolean isOnBranch(int block, int end) {
+            int b = end;
+            while (b > block) {
+                b = parent(b);
+            }
+            return b == block;
+        }
     }
 
-    // The four branches of "some" go on side by side: the tip's, an equal, a banned, an unfit one.
-    private static Use manyBlocks(int count) {
-        return x -> {
-            some(x);
-            for (int b = SOME_BLOCKS; b < count; b++) {
-                x.block(b - 4, b % 8, PLAIN);
-            }
-        };
+    private static Setup manyTransactions(int count) {
+        return new Setup(count, SOME_BLOCKS);
+    }
+
+    private static Setup manyBlocks(int count) {
+        return new Setup(SOME_TRANSACTIONS, count);
     }
 
     private static Use equalTransactions() {
@@ -1241,49 +1261,80 @@ public final class BoundaryTests {
 
     // ---- That nothing changes: the same calls with and without one more must go on alike
 
-    private static void dueRefused(String what, Use setup, Call call, int answer) {
-        due(what, call.on(made(setup)), answer);
+    private static void dueRefused(String what, Setup setup, Call call, int answer) {
+        due(what, call.on(setup.made()), answer);
         dueNoChange(what, setup, call);
     }
 
-    // Each sight is taken of objects of its own, so that none hides what another would show.
-    private static void dueNoChange(String what, Use setup, Call call) {
-        Use setupAndCall = x -> {
-            setup.on(x);
-            call.on(x);
-        };
-        for (Sight sight : SIGHTS) {
-            List<Integer> want = sight.of(made(setup));
-            List<Integer> got = sight.of(made(setupAndCall));
-            if (!got.equals(want)) {
-                wrong++;
-                System.out.println(sentence + " | " + what + ": changes " + want + " to " + got);
+    private static void dueNoChange(String what, Setup setup, Call call) {
+        for (Way way : waysOn(setup)) {
+            for (Way question : QUESTIONS) {
+                dueAlike(what, setup, call, way, question);
+            }
+        }
+        dueAlike(what, setup, call, x -> List.of(), BoundaryTests::askShared);
+    }
+
+    // Each question is put to objects of its own, so that none hides what another would show.
+    private static void dueAlike(String what, Setup setup, Call call, Way way, Way question) {
+        ReorgLedger plain = setup.made();
+        ReorgLedger called = setup.made();
+        call.on(called);
+        if (!way.on(called).equals(way.on(plain)) || !question.on(called).equals(question.on(plain))) {
+            wrong++;
+            System.out.println(sentence + " | " + what + ": something changes");
+        }
+    }
+
+    private static List<Way> questions() {
+        List<Way> questions = new ArrayList<>();
+        questions.add(x -> List.of(x.tip()));
+        questions.add(x -> answers(21, b -> x.valid(b) ? 1 : 0));
+        questions.add(x -> answers(21, x::total));
+        questions.add(x -> answers(8, x::balance));
+        questions.add(x -> answers(64, coin -> x.unspent(coin) ? 1 : 0));
+        questions.add(x -> answers(16, x::confirmations));
+        questions.add(x -> answers(16, t -> x.fits(t) ? 1 : 0));
+        return questions;
+    }
+
+    private static List<Integer> askShared(ReorgLedger x) {
+        return answers(441, pair -> x.shared(pair / 21, pair % 21));
+    }
+
+    // Calls that bring to light what an object holds. None of them is refused: what a refused
+    // call changes would change on both sides.
+    private static List<Way> waysOn(Setup setup) {
+        List<Way> ways = new ArrayList<>();
+        ways.add(x -> List.of());
+        for (int b = 0; b < setup.blocks(); b++) {
+            int block = b;
+            ways.add(x -> banAll(x, setup, other -> other == block));
+            ways.add(x -> banAll(x, setup, other -> !Setup.isOnBranch(other, block)));
+        }
+        if (setup.transactions() < 16) {
+            ways.add(x -> answers(16 - setup.transactions(), t -> x.transaction(34, -1, 10 + t, 2 * t)));
+        }
+        if (setup.blocks() < 21) {
+            ways.add(x -> answers(21 - setup.blocks(), b -> x.block(b / 2, b % 8, PLAIN)));
+            addTrials(setup, ways);
+        }
+        return ways;
+    }
+
+    // Above block 0, 1 or 2 any transaction fits that can fit at all.
+    private static void addTrials(Setup setup, List<Way> ways) {
+        for (int t = 0; t < setup.transactions(); t++) {
+            for (int parent = 0; parent <= 2; parent++) {
+                int above = parent;
+                int content = content(t, NONE, 15);
+                ways.add(x -> List.of(x.block(above, 7, content)));
             }
         }
     }
 
-    private static List<Sight> sights() {
-        List<Sight> sights = new ArrayList<>();
-        sights.add(x -> List.of(x.tip()));
-        sights.add(x -> answers(21, b -> x.valid(b) ? 1 : 0));
-        sights.add(x -> answers(21, x::total));
-        sights.add(x -> answers(8, x::balance));
-        sights.add(x -> answers(64, coin -> x.unspent(coin) ? 1 : 0));
-        sights.add(x -> answers(16, x::confirmations));
-        sights.add(x -> answers(441, pair -> x.shared(pair / 21, pair % 21)));
-        sights.add(x -> answers(16, t -> x.fits(t) ? 1 : 0));
-        sights.add(x -> answers(17, t -> x.transaction(34, -1, 10 + t, 2 * t)));
-        sights.add(x -> answers(21, b -> x.block(b / 2, b % 8, PLAIN)));
-        sights.add(BoundaryTests::addBlocks);
-        for (int t = 0; t < 16; t++) {
-            int transaction = t;
-            sights.add(x -> tryTransaction(x, transaction));
-        }
-        for (int b = 0; b <= 20; b++) {
-            int block = b;
-            sights.add(x -> allowOnly(x, block));
-        }
-        return sights;
+    private static List<Integer> banAll(ReorgLedger x, Setup setup, IntPredicate which) {
+        return answers(setup.blocks() - 1, b -> x.ban(b + 1, which.test(b + 1)));
     }
 
     private static List<Integer> answers(int count, IntUnaryOperator call) {
@@ -1291,48 +1342,6 @@ public final class BoundaryTests {
         for (int number = 0; number < count; number++) {
             answers.add(call.applyAsInt(number));
         }
-        return answers;
-    }
-
-    private static List<Integer> addBlocks(ReorgLedger x) {
-        List<Integer> answers = new ArrayList<>();
-        for (int b = 0; b < 21; b++) {
-            int block = x.block(b / 2, b % 8, PLAIN);
-            answers.add(block);
-            answers.add(x.tip());
-            answers.add(x.valid(block) ? 1 : 0);
-            answers.add(x.total(block));
-            answers.addAll(answers(8, x::balance));
-            answers.add(x.ban(b, false));
-        }
-        return answers;
-    }
-
-    // Above blocks 0, 1 and 2 any transaction of "some" that can fit at all fits once.
-    private static List<Integer> tryTransaction(ReorgLedger x, int transaction) {
-        List<Integer> answers = new ArrayList<>();
-        for (int parent = 0; parent <= 2; parent++) {
-            int block = x.block(parent, 7, content(transaction, NONE, 15));
-            answers.add(block);
-            answers.add(x.tip());
-            answers.addAll(answers(8, x::balance));
-            answers.add(x.ban(block, true));
-        }
-        return answers;
-    }
-
-    // Bans all but the blocks of one branch, so that its state is seen.
-    private static List<Integer> allowOnly(ReorgLedger x, int block) {
-        List<Integer> answers = new ArrayList<>();
-        for (int b = 1; b <= 20; b++) {
-            boolean onBranch = x.shared(b, block) == x.shared(b, b);
-            answers.add(x.ban(b, !onBranch));
-        }
-        answers.add(x.tip());
-        answers.addAll(answers(64, coin -> x.unspent(coin) ? 1 : 0));
-        answers.addAll(answers(8, x::balance));
-        answers.addAll(answers(16, x::confirmations));
-        answers.addAll(answers(16, t -> x.fits(t) ? 1 : 0));
         return answers;
     }
 
