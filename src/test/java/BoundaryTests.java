@@ -596,6 +596,42 @@ public final class BoundaryTests {
             dueNoChange("fits " + number, SOME, x -> x.fits(number) ? 1 : 0);
         }
         dueNoChange("tip", SOME, ReorgLedger::tip);
+        queriesLeaveOneAnother();
+    }
+
+    // Pairs on objects of their own show what a query changes for its own kind alone.
+    private static void queriesLeaveOneAnother() {
+        List<Call> queries = queries();
+        for (int q = 0; q < queries.size(); q++) {
+            int want = queries.get(q).on(SOME.made());
+            for (int before = 0; before < queries.size(); before++) {
+                ReorgLedger x = SOME.made();
+                queries.get(before).on(x);
+                due("query " + q + " after query " + before, queries.get(q).on(x), want);
+            }
+        }
+    }
+
+    private static List<Call> queries() {
+        List<Call> queries = new ArrayList<>();
+        queries.add(ReorgLedger::tip);
+        for (int n = -1; n <= 8; n++) {
+            int number = n;
+            queries.add(x -> x.valid(number) ? 1 : 0);
+            queries.add(x -> x.total(number));
+            queries.add(x -> x.balance(number));
+            queries.add(x -> x.confirmations(number));
+            queries.add(x -> x.fits(number) ? 1 : 0);
+            for (int b = -1; b <= SOME_BLOCKS; b++) {
+                int other = b;
+                queries.add(x -> x.shared(number, other));
+            }
+        }
+        for (int n = -1; n <= 64; n++) {
+            int coin = n;
+            queries.add(x -> x.unspent(coin) ? 1 : 0);
+        }
+        return queries;
     }
 
     // ---- Promise 1
@@ -1272,7 +1308,7 @@ public final class BoundaryTests {
                 dueAlike(what, setup, call, way, question);
             }
         }
-        dueAlike(what, setup, call, x -> List.of(), BoundaryTests::askShared);
+        dueAlike(what, setup, call, x -> List.of(), x -> askShared(x, setup.blocks()));
     }
 
     // Each question is put to objects of its own, so that none hides what another would show.
@@ -1298,8 +1334,8 @@ public final class BoundaryTests {
         return questions;
     }
 
-    private static List<Integer> askShared(ReorgLedger x) {
-        return answers(441, pair -> x.shared(pair / 21, pair % 21));
+    private static List<Integer> askShared(ReorgLedger x, int blocks) {
+        return answers(blocks * blocks, pair -> x.shared(pair / blocks, pair % blocks));
     }
 
     // Calls that bring to light what an object holds. None of them is refused: what a refused
