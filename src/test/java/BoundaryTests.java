@@ -1327,10 +1327,13 @@ public final class BoundaryTests {
         questions.add(x -> List.of(x.tip()));
         questions.add(x -> answers(21, b -> x.valid(b) ? 1 : 0));
         questions.add(x -> answers(21, x::total));
-        questions.add(x -> answers(8, x::balance));
         questions.add(x -> answers(64, coin -> x.unspent(coin) ? 1 : 0));
         questions.add(x -> answers(16, x::confirmations));
         questions.add(x -> answers(16, t -> x.fits(t) ? 1 : 0));
+        for (int n = 0; n < 8; n++) {
+            int owner = n;
+            questions.add(x -> List.of(x.balance(owner)));
+        }
         return questions;
     }
 
