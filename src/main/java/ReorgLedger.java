@@ -213,7 +213,7 @@ public final class ReorgLedger {
         amounts[block * COINS + coin] = amount;
     }
 
-    // A row that was left half built is never read: every block above it is invalid as well.
+    // A row left half built does no harm: no block above it is ever valid, so none is the tip.
     private void buildState(int block, int first, int second) {
         int parent = parentOf[block];
         for (int coin = 0; coin < COINS; coin++) {
